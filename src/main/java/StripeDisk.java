@@ -287,7 +287,6 @@ public final class StripeDisk {
         Arrays.fill(rotten, 0L);
         Arrays.fill(kept, (byte) 0);
         group.clear();
-        journal.clear();
         for (int disk = 0; disk < MOST_DISKS; disk++) {
             labels.wipe(disk);
         }
@@ -426,19 +425,17 @@ public final class StripeDisk {
     }
 
     private int lostDisks() {
-        int found = 0;
-        for (int disk = 0; disk < disks; disk++) {
-            if (mark[disk] == LOST) {
-                found++;
-            }
-        }
-        return found;
+        return disksMarked(LOST, LOST);
     }
 
     private int blankDisks() {
+        return disksMarked(0, rows - 1);
+    }
+
+    private int disksMarked(int least, int most) {
         int found = 0;
         for (int disk = 0; disk < disks; disk++) {
-            if (isBlank(disk)) {
+            if (mark[disk] >= least && mark[disk] <= most) {
                 found++;
             }
         }

@@ -149,6 +149,8 @@ public final class Promises {
         due(x.write(3, 1, 1, 2), 8);
         due(x.commit(0, 0), 8);
         due(x.write(4, 0, 1, 1), 4);
+        due(x.write(6, 0, 1, 1), 7);
+        due(x.write(5, 0, 1, 1), 8);
         due(x.lay(8, 40), 204);
         for (int block = 0; block < 6; block++) {
             due(x.write(block, 0, 64, block), 4 + block);
@@ -382,11 +384,28 @@ public final class Promises {
         due(x.status(3), -1);
         due(x.count(3), 1);
         due(x.count(4), 1);
-        // the label keeps the group waiting in memory
+        // the label does not touch the group
         due(x.write(1, 0, 1, 1), 4);
         due(x.replace(3), 0);
         due(x.count(1), 4);
         due(x.read(1, 0), 1);
+        // the label of replace() says that the journal is empty, and is on the blank disk, too: so the group's label
+        // can come there by halves
+        due(x.lay(4, 12), 12);
+        due(x.write(0, 0, 1, 1), 4);
+        due(x.commit(0, 0), 4);
+        due(x.lose(0), 1);
+        due(x.replace(0), 0);
+        due(x.fail(), 0);
+        due(x.mount(0, 0), 0);
+        due(x.lose(0), 1);
+        due(x.replace(0), 0);
+        due(x.write(0, 0, 1, 2), 4);
+        due(x.commit(2, bits(FIRST, ALL)), OFF);
+        due(x.mount(1, on(0, LAST)), OFF);
+        due(x.lose(1), 1);
+        due(x.mount(0, 0), 2);
+        due(x.read(0, 0), 2);
     }
 
     private static void rot() {
