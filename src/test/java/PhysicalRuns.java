@@ -38,7 +38,8 @@ public final class PhysicalRuns {
             int r = any(5) == 0 ? 12 + any(29) : 12 + any(3);
             step(run, told, "lay(" + n + ", " + r + ")", x.lay(n, r), y.lay(n, r));
         }
-        for (int i = 0; i < CALLS && wrong == 0; i++) {
+        // with the reads behind it a run stays below 512 calls
+        for (int i = 0; i < CALLS && told.size() < CALLS && wrong == 0; i++) {
             oneCall(run, told, x, y);
         }
         for (int block = 0; block < y.blocks() && wrong == 0; block++) {

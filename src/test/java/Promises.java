@@ -1,19 +1,5 @@
 /** Each promise of the document by hand: ordinary inputs, the edges that it names, and wrong inputs. */
-public final class Promises {
-    private static final int BAD = -1;
-    private static final int OFF = -2;
-    private static final int MANY = -3;
-    private static final int LOW = Integer.MIN_VALUE;
-    private static final int HIGH = Integer.MAX_VALUE;
-    private static final int NONE = 0;
-    private static final int ALL = 1;
-    private static final int FIRST = 2;
-    private static final int LAST = 3;
-
-    private static int wrong = 0;
-    private static int promise = 0;
-    private static int asked = 0;
-
+public final class Promises extends Sheet {
     public static void main(String[] args) {
         newObject();
         lay();
@@ -43,14 +29,11 @@ public final class Promises {
         status();
         count();
         offBeforeAllElse();
-        System.out.println(wrong == 0 ? "all promises are kept" : wrong + " answers are not as due");
-        if (wrong != 0) {
-            System.exit(1);
-        }
+        finish();
     }
 
     private static void newObject() {
-        begin(1);
+        begin("promise 1");
         StripeDisk x = new StripeDisk();
         due(x.count(0), 12);
         due(x.status(0), 12);
@@ -67,7 +50,7 @@ public final class Promises {
     }
 
     private static void lay() {
-        begin(2);
+        begin("promise 2");
         StripeDisk x = new StripeDisk();
         due(x.lay(4, 12), 12);
         due(x.lay(8, 40), 204);
@@ -109,7 +92,7 @@ public final class Promises {
     }
 
     private static void write() {
-        begin(3);
+        begin("promise 3");
         StripeDisk x = new StripeDisk();
         due(x.write(5, 10, 3, 255), 4);
         due(x.read(5, 9), 0);
@@ -135,7 +118,7 @@ public final class Promises {
     }
 
     private static void writeKeepsToTheUse() {
-        begin(3);
+        begin("promise 3");
         StripeDisk x = new StripeDisk();
         due(x.write(0, 0, 1, 1), 4);
         due(x.write(2, 0, 1, 1), 7);
@@ -170,7 +153,7 @@ public final class Promises {
     }
 
     private static void read() {
-        begin(4);
+        begin("promise 4");
         StripeDisk x = new StripeDisk();
         due(x.write(11, 63, 1, 128), 4);
         due(x.read(11, 63), 128);
@@ -201,7 +184,7 @@ public final class Promises {
     }
 
     private static void commit() {
-        begin(5);
+        begin("promise 5");
         StripeDisk x = new StripeDisk();
         for (int stop = 0; stop < 5; stop++) {
             due(x.commit(stop, -1), 0);
@@ -225,7 +208,7 @@ public final class Promises {
     }
 
     private static void commitStops() {
-        begin(5);
+        begin("promise 5");
         for (int stop = 1; stop < 5; stop++) {
             StripeDisk x = new StripeDisk();
             due(x.write(0, 0, 64, 1), 4);
@@ -243,7 +226,7 @@ public final class Promises {
     }
 
     private static void commitStopsInItsLabels() {
-        begin(5);
+        begin("promise 5");
         for (int disk = 0; disk < 4; disk++) {
             for (int part = 0; part < 4; part++) {
                 StripeDisk x = new StripeDisk();
@@ -276,7 +259,7 @@ public final class Promises {
     }
 
     private static void forget() {
-        begin(6);
+        begin("promise 6");
         StripeDisk x = new StripeDisk();
         due(x.forget(), 0);
         due(x.write(0, 0, 64, 1), 4);
@@ -294,7 +277,7 @@ public final class Promises {
     }
 
     private static void lose() {
-        begin(7);
+        begin("promise 7");
         StripeDisk x = new StripeDisk();
         for (int disk : new int[] {-1, 4, LOW, HIGH}) {
             due(x.lose(disk), BAD);
@@ -334,7 +317,7 @@ public final class Promises {
     }
 
     private static void loseTakesRotAndLabels() {
-        begin(7);
+        begin("promise 7");
         StripeDisk x = new StripeDisk();
         due(x.rot(0, 6), 1);
         due(x.rot(1, 6), 2);
@@ -355,7 +338,7 @@ public final class Promises {
     }
 
     private static void replace() {
-        begin(8);
+        begin("promise 8");
         StripeDisk x = new StripeDisk();
         for (int disk : new int[] {-1, 0, 3, 4, LOW, HIGH}) {
             due(x.replace(disk), BAD);
@@ -409,7 +392,7 @@ public final class Promises {
     }
 
     private static void rot() {
-        begin(9);
+        begin("promise 9");
         StripeDisk x = new StripeDisk();
         int[][] bad = {{-1, 2}, {4, 2}, {0, 0}, {0, 1}, {0, -1}, {0, 12}, {LOW, 2}, {HIGH, 2}, {0, LOW}, {0, HIGH}, {0, 34}};
         for (int[] one : bad) {
@@ -456,7 +439,7 @@ public final class Promises {
     }
 
     private static void fill() {
-        begin(10);
+        begin("promise 10");
         StripeDisk x = new StripeDisk();
         for (int disk : new int[] {-1, 0, 4, LOW, HIGH}) {
             due(x.fill(disk, 0, 0), BAD);
@@ -489,7 +472,7 @@ public final class Promises {
     }
 
     private static void fillStops() {
-        begin(10);
+        begin("promise 10");
         StripeDisk x = new StripeDisk();
         due(x.lose(2), 1);
         due(x.replace(2), 0);
@@ -529,7 +512,7 @@ public final class Promises {
     }
 
     private static void scrub() {
-        begin(11);
+        begin("promise 11");
         StripeDisk x = new StripeDisk();
         int[][] bad = {{1, 0}, {0, 0}, {-1, 0}, {12, 0}, {LOW, 0}, {HIGH, 0}, {6, -1}, {6, 2}, {6, LOW}, {6, HIGH}};
         for (int[] one : bad) {
@@ -565,7 +548,7 @@ public final class Promises {
     }
 
     private static void mount() {
-        begin(12);
+        begin("promise 12");
         StripeDisk x = new StripeDisk();
         due(x.mount(0, 0), BAD);
         due(x.mount(1, 0), BAD);
@@ -583,7 +566,7 @@ public final class Promises {
     }
 
     private static void mountStops() {
-        begin(12);
+        begin("promise 12");
         StripeDisk x = new StripeDisk();
         due(x.write(0, 0, 64, 1), 4);
         due(x.write(1, 0, 64, 2), 5);
@@ -615,7 +598,7 @@ public final class Promises {
     }
 
     private static void mountWritesAgain() {
-        begin(12);
+        begin("promise 12");
         // the label goes from disk 1 to disk 3 by stage 1, and disk 1 may go
         StripeDisk x = new StripeDisk();
         due(x.write(0, 0, 1, 1), 4);
@@ -654,7 +637,7 @@ public final class Promises {
     }
 
     private static void mountKeepsLabelsApart() {
-        begin(12);
+        begin("promise 12");
         // half of the group's label and half of the next one are none
         StripeDisk x = new StripeDisk();
         due(x.write(0, 0, 1, 1), 4);
@@ -681,7 +664,7 @@ public final class Promises {
     }
 
     private static void mountCountsUnits() {
-        begin(12);
+        begin("promise 12");
         // row 6 of four disks: sums on disks 2 and 3, blocks 0 and 1 on disks 0 and 1
         int[] units = {2, 3, 2, 2};
         for (int disk = 0; disk < 4; disk++) {
@@ -725,7 +708,7 @@ public final class Promises {
     }
 
     private static void mountFindsReplacedDisks() {
-        begin(12);
+        begin("promise 12");
         // the label tells that disk 0 was whole, but the new disk has none
         StripeDisk x = new StripeDisk();
         due(x.fail(), 0);
@@ -751,7 +734,7 @@ public final class Promises {
     }
 
     private static void fail() {
-        begin(13);
+        begin("promise 13");
         StripeDisk x = new StripeDisk();
         due(x.write(0, 0, 1, 1), 4);
         due(x.commit(0, 0), 4);
@@ -764,7 +747,7 @@ public final class Promises {
     }
 
     private static void check() {
-        begin(14);
+        begin("promise 14");
         StripeDisk x = new StripeDisk();
         due(x.check(), 0);
         due(x.write(0, 0, 64, 77), 4);
@@ -780,7 +763,7 @@ public final class Promises {
     }
 
     private static void gone() {
-        begin(15);
+        begin("promise 15");
         StripeDisk x = new StripeDisk();
         for (int row : new int[] {-1, 0, 1, 12, LOW, HIGH}) {
             due(x.gone(row), BAD);
@@ -811,7 +794,7 @@ public final class Promises {
     }
 
     private static void status() {
-        begin(16);
+        begin("promise 16");
         StripeDisk x = new StripeDisk();
         for (int disk : new int[] {-1, 4, LOW, HIGH}) {
             due(x.status(disk), MANY);
@@ -836,7 +819,7 @@ public final class Promises {
     }
 
     private static void count() {
-        begin(17);
+        begin("promise 17");
         StripeDisk x = new StripeDisk();
         for (int which : new int[] {-1, 5, LOW, HIGH}) {
             due(x.count(which), BAD);
@@ -859,7 +842,7 @@ public final class Promises {
     }
 
     private static void offBeforeAllElse() {
-        begin(13);
+        begin("promise 13");
         StripeDisk x = new StripeDisk();
         due(x.rot(0, 6), 1);
         due(x.fail(), 0);
@@ -887,32 +870,5 @@ public final class Promises {
         due(StripeDisk.BAD, BAD);
         due(StripeDisk.OFF, OFF);
         due(StripeDisk.MANY, MANY);
-    }
-
-    private static long on(int unit, int part) {
-        return (long) part << 2 * unit;
-    }
-
-    private static long bits(int... parts) {
-        long all = 0;
-        for (int unit = 0; unit < parts.length; unit++) {
-            all |= on(unit, parts[unit]);
-        }
-        return all;
-    }
-
-    private static void begin(int number) {
-        promise = number;
-        asked = 0;
-    }
-
-    private static void due(int got, int want) {
-        asked++;
-        if (got != want) {
-            wrong++;
-            StackTraceElement caller = new Throwable().getStackTrace()[1];
-            System.out.println("promise " + promise + ": call " + asked + " of " + caller.getMethodName() + ", line "
-                + caller.getLineNumber() + ", answered " + got + ", due is " + want);
-        }
     }
 }
