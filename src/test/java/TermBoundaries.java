@@ -545,7 +545,7 @@ public final class TermBoundaries extends Sheet {
         due(x.read(0, 0), 7);
         due(x.read(0, 1), 5);
         due(x.read(1, 0), 6);
-        // nor are labels on a lost disk: it has none behind its replacement
+        // nor is a label on a lost disk: the other three are the units 0 to 2, and there is no fourth
         StripeDisk y = new StripeDisk();
         due(y.lose(0), 1);
         due(y.write(0, 0, 1, 1), 4);
@@ -626,40 +626,31 @@ public final class TermBoundaries extends Sheet {
 
     private static void labelsGoByTheNumbersOfDisks() {
         begin("A label that is under way is so by the numbers of the disks on which it is written.");
-        int[][] lost = {{0, 1}, {0, 4}, {1, 3}, {3, 4}};
-        int[][] left = {{2, 3, 4}, {1, 2, 3}, {0, 2, 4}, {0, 1, 2}};
-        for (int i = 0; i < lost.length; i++) {
-            for (int unit = 0; unit < 3; unit++) {
-                StripeDisk x = laid(5, 12);
-                due(x.lose(lost[i][0]), 1);
-                due(x.lose(lost[i][1]), 2);
-                due(x.write(0, 0, 1, 1), 4);
-                due(x.commit(2, on(unit, ALL)), OFF);
-                // the label goes if the disk that should have it is replaced, and stays if another one is
-                due(x.replace(lost[i][0]), 0);
-                due(x.mount(1, 0), OFF);
-                due(x.lose(left[i][unit]), MANY);
-                due(x.mount(0, 0) > 0 ? 1 : 0, 1);
-                due(x.read(0, 0), 1);
-            }
-            for (int unit = 3; unit < 5; unit++) {
-                StripeDisk x = laid(5, 12);
-                due(x.lose(lost[i][0]), 1);
-                due(x.lose(lost[i][1]), 2);
-                due(x.write(0, 0, 1, 1), 4);
-                due(x.commit(2, on(unit, ALL)), OFF);
-                due(x.mount(0, 0), 0);
+        // without one disk, the others are the units in order: the label is lost with that disk, and with no other
+        for (int lost = 0; lost < 5; lost++) {
+            for (int unit = 0; unit < 4; unit++) {
+                for (int other = 0; other < 4; other++) {
+                    StripeDisk x = laid(5, 12);
+                    due(x.lose(lost), 1);
+                    due(x.write(0, 0, 1, 1), 4);
+                    due(x.commit(2, on(unit, ALL)), OFF);
+                    due(x.lose(other < lost ? other : other + 1), 2);
+                    due(x.mount(0, 0) > 0 ? 1 : 0, other == unit ? 0 : 1);
+                    due(x.read(0, 0), other == unit ? 0 : 1);
+                }
             }
         }
-        for (int lostDisk = 0; lostDisk < 4; lostDisk++) {
-            for (int unit = 0; unit < 3; unit++) {
-                StripeDisk x = new StripeDisk();
-                due(x.lose(lostDisk), 1);
-                due(x.write(0, 0, 1, 1), 4);
-                due(x.commit(2, on(unit, ALL)), OFF);
-                due(x.lose(unit < lostDisk ? unit : unit + 1), 2);
-                due(x.mount(0, 0), 0);
-                due(x.read(0, 0), 0);
+        // without two disks of five there are three units, whichever disks they are
+        for (int a = 0; a < 5; a++) {
+            for (int b = 0; b < a; b++) {
+                for (int unit = 0; unit < 5; unit++) {
+                    StripeDisk x = laid(5, 12);
+                    due(x.lose(a), 1);
+                    due(x.lose(b), 2);
+                    due(x.write(0, 0, 1, 1), 4);
+                    due(x.commit(2, on(unit, ALL)), OFF);
+                    due(x.mount(0, 0) > 0 ? 1 : 0, unit < 3 ? 1 : 0);
+                }
             }
         }
     }
@@ -980,34 +971,24 @@ public final class TermBoundaries extends Sheet {
 
     private static void marksAreThoseOfTheLabel() {
         begin("behind this stage marks are those that it tells");
-        for (int stop = 0; stop < 4; stop += 3) {
-            StripeDisk x = new StripeDisk();
-            due(x.lose(0), 1);
-            due(x.replace(0), 0);
-            fillUpTo(x, 0, 11);
-            due(x.fill(0, 2, on(3, ALL)), OFF);
-            due(x.status(0), 11);
-            due(x.mount(stop, 0), stop == 0 ? 0 : OFF);
-            due(x.status(0), 12);
-            due(x.gone(11), 0);
-            // in stage 2 power fails behind them, too
-            StripeDisk y = new StripeDisk();
-            due(y.lose(0), 1);
-            due(y.replace(0), 0);
-            due(y.fill(0, 2, on(1, ALL)), OFF);
-            due(y.mount(3, on(2, FIRST)), OFF);
-            due(y.status(0), 1);
-            due(y.lose(1), 1);
-            due(y.mount(1, 0), OFF);
-            due(y.status(0), 1);
+        for (int mark = 0; mark < 12; mark++) {
+            for (int stop = 0; stop < 4; stop += 3) {
+                StripeDisk x = new StripeDisk();
+                due(x.lose(0), 1);
+                due(x.replace(0), 0);
+                fillUpTo(x, 0, mark);
+                due(x.fill(0, 2, on(3, ALL)), OFF);
+                due(x.status(0), mark);
+                due(x.mount(stop, 0), stop == 0 ? 0 : OFF);
+                due(x.status(0), mark + 1);
+                due(x.gone(11), mark + 1 < 12 ? 1 : 0);
+                // the label is on all disks by then: the mark does not go back with the disk that had it first
+                due(x.lose(3), 1);
+                due(x.mount(0, 0), stop == 0 ? BAD : 0);
+                due(x.status(0), mark + 1);
+                due(x.status(1), 12);
+            }
         }
-        StripeDisk z = new StripeDisk();
-        due(z.write(0, 0, 1, 1), 4);
-        due(z.commit(3, 0), OFF);
-        due(z.lose(0), 1);
-        due(z.mount(2, 0), OFF);
-        due(z.status(0), -1);
-        due(z.status(1), 12);
     }
 
     private static void marksAreZeroWithoutALabel() {
